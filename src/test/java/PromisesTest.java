@@ -41,7 +41,7 @@ public final class PromisesTest {
             int variable = v;
             RingProver x = new RingProver();
             Due.due("2: variable(" + v + ")", x.variable(v), 1);
-            formulaIs("2: variable(" + v + ")", x, 0, a -> bit(a, variable));
+            Due.formulaIs("2: variable(" + v + ")", x, 0, a -> Stacks.bit(a, variable));
         }
         RingProver x = new RingProver();
         for (int i = 1; i <= Due.ROOM; i++) {
@@ -52,7 +52,7 @@ public final class PromisesTest {
         }
         for (int v = 0; v < 6; v++) {
             int variable = v;
-            Due.refused("2: variable(" + v + ") on 12", PromisesTest::fullStack,
+            Due.refused("2: variable(" + v + ") on 12", () -> Stacks.of(Due.ROOM),
                     y -> y.variable(variable));
         }
     }
@@ -62,9 +62,9 @@ public final class PromisesTest {
         for (int bit : bits) {
             RingProver x = new RingProver();
             Due.due("3: constant(" + bit + ")", x.constant(bit), 1);
-            formulaIs("3: constant(" + bit + ")", x, 0, a -> (bit & 1) == 1);
+            Due.formulaIs("3: constant(" + bit + ")", x, 0, a -> (bit & 1) == 1);
             Due.due("3: constant(" + bit + ") again", x.constant(bit), 2);
-            Due.refused("3: constant(" + bit + ") on 12", PromisesTest::fullStack,
+            Due.refused("3: constant(" + bit + ") on 12", () -> Stacks.of(Due.ROOM),
                     y -> y.constant(bit));
         }
         RingProver x = new RingProver();
@@ -84,11 +84,13 @@ public final class PromisesTest {
             x.variable(3);
             x.variable(1);
             Due.due(call, x.join(sort), 2);
-            formulaIs(call, x, 0,
-                    a -> table.charAt((bit(a, 3) ? 2 : 0) + (bit(a, 1) ? 1 : 0)) == '1');
-            formulaIs(call + ", the one below", x, 1, a -> bit(a, 5));
+            Due.formulaIs(call, x, 0, a -> {
+                int row = (Stacks.bit(a, 3) ? 2 : 0) + (Stacks.bit(a, 1) ? 1 : 0);
+                return table.charAt(row) == '1';
+            });
+            Due.formulaIs(call + ", the one below", x, 1, a -> Stacks.bit(a, 5));
             Due.due(call + ", models(2)", x.models(2), -1);
-            Due.due(call + " on 12", fullStack().join(sort), 11);
+            Due.due(call + " on 12", Stacks.of(Due.ROOM).join(sort), 11);
             RingProver two = twoFormulas();
             Due.due(call + " on 2", two.join(sort), 1);
             Due.due(call + " on 1", two.join(sort), -1);
@@ -103,11 +105,11 @@ public final class PromisesTest {
     private static void promise5Not() {
         RingProver x = threeFormulas();
         Due.due("5: not()", x.not(), 0);
-        formulaIs("5: not()", x, 0, a -> !(bit(a, 1) && bit(a, 2)));
-        formulaIs("5: not(), the one below", x, 1, a -> bit(a, 0) || bit(a, 5));
+        Due.formulaIs("5: not()", x, 0, a -> !(Stacks.bit(a, 1) && Stacks.bit(a, 2)));
+        Due.formulaIs("5: not(), the one below", x, 1, a -> Stacks.bit(a, 0) || Stacks.bit(a, 5));
         Due.due("5: not() again", x.not(), 0);
-        formulaIs("5: not() twice", x, 0, a -> bit(a, 1) && bit(a, 2));
-        Due.due("5: not() on 12", fullStack().not(), 0);
+        Due.formulaIs("5: not() twice", x, 0, a -> Stacks.bit(a, 1) && Stacks.bit(a, 2));
+        Due.due("5: not() on 12", Stacks.of(Due.ROOM).not(), 0);
         Due.refused("5: not() on none", RingProver::new, RingProver::not);
     }
 
@@ -115,19 +117,19 @@ public final class PromisesTest {
         for (int k = 0; k < 3; k++) {
             RingProver x = threeFormulas();
             Due.due("6: copy(" + k + ")", x.copy(k), 4);
-            formulaIs("6: copy(" + k + ")", x, 0, threeFormulasAre(k));
-            formulaIs("6: copy(" + k + "), the one copied", x, k + 1, threeFormulasAre(k));
+            Due.formulaIs("6: copy(" + k + ")", x, 0, threeFormulasAre(k));
+            Due.formulaIs("6: copy(" + k + "), the one copied", x, k + 1, threeFormulasAre(k));
             x.not();
-            formulaIs("6: copy(" + k + ") and not()", x, k + 1, threeFormulasAre(k));
+            Due.formulaIs("6: copy(" + k + ") and not()", x, k + 1, threeFormulasAre(k));
         }
         RingProver x = threeFormulas();
         for (int i = 4; i <= Due.ROOM; i++) {
             Due.due("6: copy as number " + i, x.copy(i - 2), i);
         }
-        formulaIs("6: copy of the lowest", x, 0, threeFormulasAre(2));
+        Due.formulaIs("6: copy of the lowest", x, 0, threeFormulasAre(2));
         for (int k = 0; k <= Due.ROOM; k++) {
             int number = k;
-            Due.refused("6: copy(" + k + ") on 12", PromisesTest::fullStack, y -> y.copy(number));
+            Due.refused("6: copy(" + k + ") on 12", () -> Stacks.of(Due.ROOM), y -> y.copy(number));
         }
         refusedWithoutFormula("6: copy", RingProver::copy);
     }
@@ -135,14 +137,14 @@ public final class PromisesTest {
     private static void promise7Drop() {
         RingProver x = threeFormulas();
         Due.due("7: drop()", x.drop(), 2);
-        formulaIs("7: drop()", x, 0, threeFormulasAre(1));
-        formulaIs("7: drop(), the one below", x, 1, threeFormulasAre(2));
+        Due.formulaIs("7: drop()", x, 0, threeFormulasAre(1));
+        Due.formulaIs("7: drop(), the one below", x, 1, threeFormulasAre(2));
         Due.due("7: models(2)", x.models(2), -1);
         Due.due("7: drop()", x.drop(), 1);
         Due.due("7: drop()", x.drop(), 0);
         Due.due("7: drop() on none", x.drop(), -1);
         Due.due("7: constant(1) after it", x.constant(1), 1);
-        RingProver full = fullStack();
+        RingProver full = Stacks.of(Due.ROOM);
         Due.due("7: drop() on 12", full.drop(), 11);
         Due.due("7: room after drop()", full.variable(0), 12);
         Due.refused("7: drop() on none", RingProver::new, RingProver::drop);
@@ -157,10 +159,10 @@ public final class PromisesTest {
             pushBelow(x);
             pushTop(x);
             Due.due(call, x.replace(v), 2);
-            formulaIs(call, x, 0, a -> topIs(with(a, variable, belowIs(a))));
-            formulaIs(call + ", the one below", x, 1, a -> bit(a, 4));
+            Due.formulaIs(call, x, 0, a -> topIs(Stacks.with(a, variable, belowIs(a))));
+            Due.formulaIs(call + ", the one below", x, 1, a -> Stacks.bit(a, 4));
             Due.due(call + ", models(2)", x.models(2), -1);
-            Due.due(call + " on 12", fullStack().replace(v), 11);
+            Due.due(call + " on 12", Stacks.of(Due.ROOM).replace(v), 11);
             RingProver two = twoFormulas();
             Due.due(call + " on 2", two.replace(v), 1);
             Due.due(call + " on 1", two.replace(v), -1);
@@ -179,7 +181,7 @@ public final class PromisesTest {
         x.constant(bit);
         pushTop(x);
         Due.due(call, x.replace(v), 1);
-        formulaIs(call, x, 0, a -> topIs(with(a, v, bit == 1)));
+        Due.formulaIs(call, x, 0, a -> topIs(Stacks.with(a, v, bit == 1)));
     }
 
     private static void promise9Products() {
@@ -193,10 +195,10 @@ public final class PromisesTest {
         x.not();
         Due.due("9: products of its contrary", x.products(0), 2);
         Due.due("9: products(2)", x.products(2), 0);
-        Due.due("9: products of six variables or-ed", allJoined(1).products(0), 63);
-        Due.due("9: products of six variables and-ed", allJoined(0).products(0), 1);
-        Due.due("9: products of six variables xor-ed", allJoined(2).products(0), 6);
-        Due.due("9: products of no variable being 1", noneIsOne().products(0), 64);
+        Due.due("9: products of six variables or-ed", Stacks.allJoined(1).products(0), 63);
+        Due.due("9: products of six variables and-ed", Stacks.allJoined(0).products(0), 1);
+        Due.due("9: products of six variables xor-ed", Stacks.allJoined(2).products(0), 6);
+        Due.due("9: products of no variable being 1", Stacks.noneIsOne().products(0), 64);
         refusedWithoutFormula("9: products", RingProver::products);
     }
 
@@ -210,7 +212,7 @@ public final class PromisesTest {
             Due.due("10: has(1, " + product + ")", x.has(1, product), inMiddle ? 1 : 0);
             Due.due("10: has(2, " + product + ")", x.has(2, product), inLowest ? 1 : 0);
             Due.due("10: has(0, " + product + ") of no variable being 1",
-                    noneIsOne().has(0, product), 1);
+                    Stacks.noneIsOne().has(0, product), 1);
             int p = product;
             refusedWithoutFormula("10: has with product " + p, (y, k) -> y.has(k, p));
         }
@@ -233,7 +235,7 @@ public final class PromisesTest {
             Due.due("11: degree of variables 0 to " + v + " and-ed", x.degree(0), v + 1);
         }
         Due.due("11: degree(1)", x.degree(1), 0);
-        Due.due("11: degree of six variables xor-ed", allJoined(2).degree(0), 1);
+        Due.due("11: degree of six variables xor-ed", Stacks.allJoined(2).degree(0), 1);
         // The product with the greatest number, 32, has fewer variables than 7 has.
         RingProver y = new RingProver();
         y.variable(0);
@@ -258,9 +260,9 @@ public final class PromisesTest {
             x.variable(v);
             Due.due("12: models of variable " + v, x.models(0), 32);
         }
-        Due.due("12: models of six variables and-ed", allJoined(0).models(0), 1);
-        Due.due("12: models of six variables or-ed", allJoined(1).models(0), 63);
-        Due.due("12: models of no variable being 1", noneIsOne().models(0), 1);
+        Due.due("12: models of six variables and-ed", Stacks.allJoined(0).models(0), 1);
+        Due.due("12: models of six variables or-ed", Stacks.allJoined(1).models(0), 63);
+        Due.due("12: models of no variable being 1", Stacks.noneIsOne().models(0), 1);
         refusedWithoutFormula("12: models", RingProver::models);
     }
 
@@ -276,12 +278,12 @@ public final class PromisesTest {
             Due.due("13: differ of a formula and itself", x.differ(v, v), 64);
         }
         Due.due("13: differ of variables 4 and 5", x.differ(1, 2), 16);
-        RingProver last = allJoined(0);
+        RingProver last = Stacks.allJoined(0);
         last.constant(0);
         Due.due("13: differ in assignment 63 alone", last.differ(0, 1), 63);
         last.not();
         Due.due("13: differ in all but assignment 63", last.differ(0, 1), 0);
-        RingProver same = allJoined(1);
+        RingProver same = Stacks.allJoined(1);
         same.copy(0);
         Due.due("13: differ of equal formulas", same.differ(0, 1), 64);
         refusedWithoutFormula("13: differ, first number", (y, k) -> y.differ(k, 0));
@@ -289,14 +291,10 @@ public final class PromisesTest {
         refusedWithoutFormula("13: differ, both numbers", (y, k) -> y.differ(k, k));
     }
 
-    private interface Call {
-        int answer(RingProver x, int argument);
-    }
-
     private static void refusedEverywhere(String call, ToIntFunction<RingProver> doCall) {
         Due.refused(call + " on none", RingProver::new, doCall);
         Due.refused(call + " on 3", PromisesTest::threeFormulas, doCall);
-        Due.refused(call + " on 12", PromisesTest::fullStack, doCall);
+        Due.refused(call + " on 12", () -> Stacks.of(Due.ROOM), doCall);
     }
 
     private static void refusedWithFewer(String call, int needed, int argument, Call doCall) {
@@ -322,21 +320,6 @@ public final class PromisesTest {
             Due.refused(call + " of number " + k + " on 3", PromisesTest::threeFormulas,
                     x -> doCall.answer(x, number));
         }
-    }
-
-    private static void formulaIs(String call, RingProver x, int k, IntPredicate want) {
-        boolean[] values = Due.valuesOf(x, k);
-        for (int a = 0; a < Due.ASSIGNMENTS; a++) {
-            Due.due(call + " for assignment " + a, values[a] ? 1 : 0, want.test(a) ? 1 : 0);
-        }
-    }
-
-    private static boolean bit(int a, int v) {
-        return ((a >> v) & 1) == 1;
-    }
-
-    private static int with(int a, int v, boolean value) {
-        return value ? a | (1 << v) : a & ~(1 << v);
     }
 
     private static RingProver oneFormula() {
@@ -368,39 +351,12 @@ public final class PromisesTest {
     private static IntPredicate threeFormulasAre(int k) {
         switch (k) {
             case 0:
-                return a -> bit(a, 1) && bit(a, 2);
+                return a -> Stacks.bit(a, 1) && Stacks.bit(a, 2);
             case 1:
-                return a -> bit(a, 0) || bit(a, 5);
+                return a -> Stacks.bit(a, 0) || Stacks.bit(a, 5);
             default:
-                return a -> !bit(a, 3);
+                return a -> !Stacks.bit(a, 3);
         }
-    }
-
-    private static RingProver fullStack() {
-        RingProver x = new RingProver();
-        for (int i = 0; i < Due.ROOM; i++) {
-            x.variable(i % 6);
-            if (i >= 6) {
-                x.not();
-            }
-        }
-        return x;
-    }
-
-    private static RingProver allJoined(int sort) {
-        RingProver x = new RingProver();
-        x.variable(0);
-        for (int v = 1; v < 6; v++) {
-            x.variable(v);
-            x.join(sort);
-        }
-        return x;
-    }
-
-    private static RingProver noneIsOne() {
-        RingProver x = allJoined(1);
-        x.not();
-        return x;
     }
 
     // Both formulas below use all variables, so that a value taken from the wrong assignment shows.
@@ -420,9 +376,9 @@ public final class PromisesTest {
     }
 
     private static boolean belowIs(int a) {
-        boolean left = (bit(a, 0) && bit(a, 1)) ^ bit(a, 2);
-        boolean right = bit(a, 3) || bit(a, 4);
-        return !(left == right && bit(a, 5));
+        boolean left = (Stacks.bit(a, 0) && Stacks.bit(a, 1)) ^ Stacks.bit(a, 2);
+        boolean right = Stacks.bit(a, 3) || Stacks.bit(a, 4);
+        return !(left == right && Stacks.bit(a, 5));
     }
 
     private static void pushTop(RingProver x) {
@@ -440,8 +396,8 @@ public final class PromisesTest {
     }
 
     private static boolean topIs(int a) {
-        boolean implied = !bit(a, 5) || bit(a, 0);
-        boolean sum = implied ^ bit(a, 3) ^ (bit(a, 1) && bit(a, 4));
-        return sum == bit(a, 2);
+        boolean implied = !Stacks.bit(a, 5) || Stacks.bit(a, 0);
+        boolean sum = implied ^ Stacks.bit(a, 3) ^ (Stacks.bit(a, 1) && Stacks.bit(a, 4));
+        return sum == Stacks.bit(a, 2);
     }
 }
