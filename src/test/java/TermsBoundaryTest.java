@@ -41,9 +41,30 @@ public final class TermsBoundaryTest {
     }
 
     private static void the512thCallIsRight() {
-        isDueAs512th("variable(5)", 1, x -> x.variable(5));
-        isDueAs512th("constant(1)", 1, x -> x.constant(1));
-        isDueAs512th("drop()", -1, RingProver::drop);
+        isDueAs512th("variable(5)", 3, x -> x.variable(5));
+        isDueAs512th("constant(1)", 3, x -> x.constant(1));
+        isDueAs512th("join(0)", 1, x -> x.join(0));
+        isDueAs512th("not()", 0, RingProver::not);
+        isDueAs512th("copy(1)", 3, x -> x.copy(1));
+        isDueAs512th("drop()", 1, RingProver::drop);
+        isDueAs512th("replace(0)", 1, x -> x.replace(0));
+        isDueAs512th("products(0)", 1, x -> x.products(0));
+        isDueAs512th("has(0, 2)", 1, x -> x.has(0, 2));
+        isDueAs512th("degree(0)", 1, x -> x.degree(0));
+        isDueAs512th("models(0)", 32, x -> x.models(0));
+        isDueAs512th("differ(0, 1)", 1, x -> x.differ(0, 1));
+        aStackFilledByCall512();
+    }
+
+    private static void isDueAs512th(String call, int want, ToIntFunction<RingProver> doCall) {
+        RingProver x = Stacks.of(2);
+        for (int i = 3; i < 512; i++) {
+            Due.due("variable(6), call " + i, x.variable(6), -1);
+        }
+        Due.due(call + ", call 512", doCall.applyAsInt(x), want);
+    }
+
+    private static void aStackFilledByCall512() {
         RingProver x = new RingProver();
         for (int i = 0; i < 250; i++) {
             Due.due("variable, call " + (2 * i + 1), x.variable(i % 6), 1);
@@ -52,19 +73,6 @@ public final class TermsBoundaryTest {
         for (int i = 1; i <= Due.ROOM; i++) {
             Due.due("constant, call " + (500 + i), x.constant(1), i);
         }
-        RingProver top = Stacks.of(1);
-        for (int call = 2; call < 512; call++) {
-            Due.due("not(), call " + call, top.not(), 0);
-        }
-        Due.due("products(0), call 512", top.products(0), 1);
-    }
-
-    private static void isDueAs512th(String call, int want, ToIntFunction<RingProver> doCall) {
-        RingProver x = new RingProver();
-        for (int i = 1; i < 512; i++) {
-            Due.due("drop(), call " + i, x.drop(), -1);
-        }
-        Due.due(call + ", call 512", doCall.applyAsInt(x), want);
     }
 
     private static void variablesEndAt0And5() {
